@@ -508,6 +508,9 @@ public final class MiserBridgesPromises {
         x = fort("down 0 1 0;down 1 2 0;down 0 3 0;down 3 2 0;chain 2 3 0;chain 0 1 0;one 5 0;");
         due("no way by either", -1, x.way(1, 2, -1));
         due("of like ones the least", 0, x.cut(1, 2));
+        // without the first it is 6 steps over 3 and 4, without the second 4 over 1
+        x = fort("down 0 1 0;down 1 2 0;down 0 3 0;down 3 4 0;down 4 2 0;chain 2 3 0;chain 0 1 0;one 5 0;");
+        due("the shortest, not the first", 1, x.cut(1, 2));
     }
 
     private static void promise20() {
@@ -547,7 +550,14 @@ public final class MiserBridgesPromises {
         due("the ballast is as it was", 0, x.load(1, 20));
         x.load(0, 20);
         due("more than may be told", 1, x.stone(1, 3, 9));
-        // two stones make one, the least of like ones
+        // there is a way of 6 steps, and one of 4 if 0 comes DOWN as he steps on 1
+        x = fort("bridge 1 2 0;down 0 1 0;down 3 4 3;down 0 3 0;down 4 2 0;chain 0 2 0;one 5 0;");
+        due("the long way", 6, x.way(1, 2, -1));
+        due("latched, no stone helps", -1, x.stone(1, 2, 9));
+        x = fort("bridge 1 2 0;down 0 1 0;down 3 4 0;down 0 3 0;down 4 2 0;chain 0 2 0;one 5 0;");
+        due("the long way", 6, x.way(1, 2, -1));
+        due("a shorter way by a stone", 0, x.stone(1, 2, 9));
+        // either stone would do: the least
         x = fort("down 0 1 0;bridge 0 3 0;down 0 2 0;bridge 0 3 0;chain 0 1 0;chain 2 3 0;one 5 0;");
         due("the least", 1, x.stone(1, 3, 9));
     }
