@@ -238,6 +238,8 @@ public final class MiserBridgesPromises {
         readDue("one 5 0 one", -10 - 8);
         readDue("  ones 5 0;", -10 - 2);
         readDue("on 5 0;", -10);
+        readDue("xne 5 0;", -10);
+        readDue("onx 5 0;", -10);
         readDue("One 5 0;", -10);
         readDue("oNe 5 0;", -10);
         readDue("one 5,0;", -10 - 5);
@@ -284,6 +286,20 @@ public final class MiserBridgesPromises {
         x.type(';', 1);
         x.read();
         due("THE TEXT stays", 1, x.count(4));
+        bytesThatWere();
+    }
+
+    /** What an earlier, longer text had behind the end of this one is not read. */
+    private static void bytesThatWere() {
+        MiserBridges x = new MiserBridges();
+        typed(x, "ones 5 0123;      ");
+        due("a word at the end", -10 - 3, readOf(x, "one"));
+        typed(x, "one 5 0123;        ");
+        due("a number at the end", -10 - 8, readOf(x, "one 5 01"));
+        typed(x, "one 5 0;         ");
+        due("blanks at the end", -10 - 9, readOf(x, "one 5 0  "));
+        typed(x, "one 5 0;one 5 0;");
+        due("an item at the end", 1, readOf(x, "one 5 0;"));
     }
 
     private static void promise12() {
@@ -377,6 +393,7 @@ public final class MiserBridgesPromises {
         }
         due("16 at most", -3, x.undo());
         refusals("undo", x, 0, 3, 0);
+        theOldestGoes();
         String[] calls = {"bridge", "chain", "one"};
         for (int i = 0; i < 3; i++) {
             x = fort("down 0 1 0;down 1 2 0;one 1 0;");
@@ -389,6 +406,24 @@ public final class MiserBridgesPromises {
             due(calls[i] + " leaves none", told >= 0 ? 0 : -99, x.count(3));
             due(calls[i] + ": undo", -3, x.undo());
         }
+    }
+
+    private static void theOldestGoes() {
+        MiserBridges x = fort("down 0 1 0;down 3 4 0;one 1 0;one 1 3;");
+        x.step(1, 6);
+        for (int i = 0; i < 16; i++) {
+            x.step(0, i % 2 == 0 ? 5 : 1);
+        }
+        x.image(0);
+        x.step(0, 5);
+        x.step(1, 4);
+        x.from(0);
+        for (int i = 0; i < 16; i++) {
+            due("undo of an image", 3, x.undo());
+        }
+        due("the later ones are undone", 0, x.where(0));
+        due("the oldest is not", 6, x.where(1));
+        due("none is left", -3, x.undo());
     }
 
     private static void promise14() {
@@ -489,6 +524,11 @@ public final class MiserBridgesPromises {
         x.load(1, 5);
         due("child, lyings that were none before do not count", 0, x.child(1));
         due("nothing tips as he goes", 1, x.can(0b101));
+        // the others keep their own pounds and places
+        x = fort("down 0 1 0;down 0 1 0;down 3 4 0;chain 0 1 4;one 1 3;one 2 3;one 5 0;");
+        due("child of one who tips nothing", 0, x.child(0));
+        due("child of one who tips nothing", 0, x.child(1));
+        due("child of the one who tips", 2, x.child(2));
     }
 
     private static void promise19() {
@@ -511,6 +551,11 @@ public final class MiserBridgesPromises {
         // without the first it is 6 steps over 3 and 4, without the second 4 over 1
         x = fort("down 0 1 0;down 1 2 0;down 0 3 0;down 3 4 0;down 4 2 0;chain 2 3 0;chain 0 1 0;one 5 0;");
         due("the shortest, not the first", 1, x.cut(1, 2));
+        // the RUST of the chain that stays is its own: 5 are not more than 5
+        x = fort("down 2 4 0;bridge 3 4 0;down 0 1 0;down 1 2 0;chain 0 1 0;chain 2 3 5;one 5 0;load 1 9;");
+        due("a way over rust", 4, x.way(1, 2, -1));
+        due("the first lifts the last bridge", -1, x.way(1, 4, -1));
+        due("the second keeps its rust", 0, x.cut(1, 4));
     }
 
     private static void promise20() {
@@ -579,6 +624,10 @@ public final class MiserBridgesPromises {
         // two ways in need two stones
         x = fort("down 0 1 0;bridge 2 3 0;down 0 1 0;bridge 2 3 0;chain 0 1 0;chain 2 3 0;one 5 0;");
         due("both ways", 0b1010, x.keep(0, 1, 9));
+        x = fort("down 0 1 0;bridge 2 3 0;chain 0 1 3;one 1 4;one 5 0;");
+        due("of another than the first", 0b10, x.keep(1, 1, 9));
+        due("his pounds, not the first one's", -1, x.keep(1, 1, 8));
+        due("by 1", -1, x.keep(1, 1, 1));
     }
 
     private static void promise23() {
@@ -592,6 +641,7 @@ public final class MiserBridgesPromises {
         due("over one and back", 1, x.wet(0, 2, 0, 1));
         due("over both", 2 * (1 + 1), x.wet(0, 4, 0, 3));
         due("over the first to 2", 1, x.wet(0, 4, 2, 5));
+        due("6 steps over the first alone", 4, x.wet(0, 6, 0, 1));
         due("of the other one", 1, x.wet(1, 2, 2, 4));
         int[][] bad = {
             {-1, 0, 0, 0}, {2, 0, 0, 0}, {0, -1, 0, 0}, {0, 7, 0, 0}, {0, 0, -1, 0}, {0, 0, 8, 0},
