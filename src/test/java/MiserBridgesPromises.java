@@ -1,3 +1,5 @@
+import java.util.Arrays;
+
 /** Each promise of the document by itself: ordinary calls, the edges it names, wrong calls. */
 public final class MiserBridgesPromises {
     private static final int LEAST = Integer.MIN_VALUE;
@@ -9,13 +11,158 @@ public final class MiserBridgesPromises {
         asked++;
         if (got != want) {
             wrong++;
-            System.out.println(what + " answered " + got + ", due is " + want);
+            System.out.println(what + ": " + Asked.last + " answered " + got + ", due is " + want);
+        }
+    }
+
+    /** The class itself, which also tells its last call, for what a test that fails prints. */
+    private static final class Asked {
+        private static String last = "";
+        private final MiserBridges fort = new MiserBridges();
+
+        private static void note(String name, Object... arguments) {
+            last = name + Arrays.toString(arguments).replace('[', '(').replace(']', ')');
+        }
+
+        int bridge(int a, int b, int kind, boolean down) {
+            note("bridge", a, b, kind, down);
+            return fort.bridge(a, b, kind, down);
+        }
+
+        int chain(int a, int b, int rust) {
+            note("chain", a, b, rust);
+            return fort.chain(a, b, rust);
+        }
+
+        int load(int bridge, int pounds) {
+            note("load", bridge, pounds);
+            return fort.load(bridge, pounds);
+        }
+
+        int one(int pounds, int room) {
+            note("one", pounds, room);
+            return fort.one(pounds, room);
+        }
+
+        int weight(int bridge) {
+            note("weight", bridge);
+            return fort.weight(bridge);
+        }
+
+        int where(int person) {
+            note("where", person);
+            return fort.where(person);
+        }
+
+        int lying() {
+            note("lying");
+            return fort.lying();
+        }
+
+        int type(long v, int n) {
+            note("type", v, n);
+            return fort.type(v, n);
+        }
+
+        int clear() {
+            note("clear");
+            return fort.clear();
+        }
+
+        int read() {
+            note("read");
+            return fort.read();
+        }
+
+        int step(int person, int place) {
+            note("step", person, place);
+            return fort.step(person, place);
+        }
+
+        int undo() {
+            note("undo");
+            return fort.undo();
+        }
+
+        int way(int some, int room, int i) {
+            note("way", some, room, i);
+            return fort.way(some, room, i);
+        }
+
+        int reach(int what) {
+            note("reach", what);
+            return fort.reach(what);
+        }
+
+        int can(int lying) {
+            note("can", lying);
+            return fort.can(lying);
+        }
+
+        int closed(int room) {
+            note("closed", room);
+            return fort.closed(room);
+        }
+
+        int child(int person) {
+            note("child", person);
+            return fort.child(person);
+        }
+
+        int cut(int some, int room) {
+            note("cut", some, room);
+            return fort.cut(some, room);
+        }
+
+        int tie(int some, int room) {
+            note("tie", some, room);
+            return fort.tie(some, room);
+        }
+
+        int stone(int some, int room, int v) {
+            note("stone", some, room, v);
+            return fort.stone(some, room, v);
+        }
+
+        int keep(int person, int room, int v) {
+            note("keep", person, room, v);
+            return fort.keep(person, room, v);
+        }
+
+        int wet(int person, int n, int place, int bridges) {
+            note("wet", person, n, place, bridges);
+            return fort.wet(person, n, place, bridges);
+        }
+
+        int image(int i) {
+            note("image", i);
+            return fort.image(i);
+        }
+
+        int from(int i) {
+            note("from", i);
+            return fort.from(i);
+        }
+
+        int status(int what) {
+            note("status", what);
+            return fort.status(what);
+        }
+
+        int count(int what) {
+            note("count", what);
+            return fort.count(what);
+        }
+
+        long digest() {
+            note("digest");
+            return fort.digest();
         }
     }
 
     /** A fort read from a text; the text is empty again behind it. */
-    private static MiserBridges fort(String text) {
-        MiserBridges x = new MiserBridges();
+    private static Asked fort(String text) {
+        Asked x = new Asked();
         int items = 0;
         for (int i = 0; i < text.length(); i++) {
             items += text.charAt(i) == ';' ? 1 : 0;
@@ -24,7 +171,7 @@ public final class MiserBridgesPromises {
         return x;
     }
 
-    private static int readOf(MiserBridges x, String text) {
+    private static int readOf(Asked x, String text) {
         x.clear();
         typed(x, text);
         int answer = x.read();
@@ -32,20 +179,20 @@ public final class MiserBridgesPromises {
         return answer;
     }
 
-    private static void typed(MiserBridges x, String text) {
+    private static void typed(Asked x, String text) {
         for (int i = 0; i < text.length(); i++) {
             x.type(text.charAt(i), 1);
         }
     }
 
-    private static void refusals(String what, MiserBridges x, int bad, int no, int full) {
+    private static void refusals(String what, Asked x, int bad, int no, int full) {
         due(what + ": status(0)", bad, x.status(0));
         due(what + ": status(1)", no, x.status(1));
         due(what + ": status(2)", full, x.status(2));
     }
 
     private static void promise1() {
-        MiserBridges x = new MiserBridges();
+        Asked x = new Asked();
         for (int what = 0; what < 5; what++) {
             due("new: count(" + what + ")", 0, x.count(what));
         }
@@ -57,7 +204,7 @@ public final class MiserBridgesPromises {
     }
 
     private static void promise2() {
-        MiserBridges x = new MiserBridges();
+        Asked x = new Asked();
         int[][] bad = {
             {-1, 1, 0}, {5, 1, 0}, {1, -1, 0}, {1, 5, 0}, {1, 1, 0}, {0, 1, -1}, {0, 1, 6},
             {LEAST, 0, 0}, {0, MOST, 0}, {0, 1, MOST}
@@ -73,13 +220,13 @@ public final class MiserBridgesPromises {
         due("a sixth one, BAD first", -2, x.bridge(0, 0, 0, true));
         due("bridges: count", 5, x.count(0));
         refusals("bridge", x, bad.length + 1, 0, 1);
-        MiserBridges like = new MiserBridges();
+        Asked like = new Asked();
         due("bridge", 0, like.bridge(0, 1, 0, false));
         due("a bridge between the same rooms", 1, like.bridge(1, 0, 0, true));
     }
 
     private static void promise3() {
-        MiserBridges x = fort("down 0 1 0;down 1 2 0;down 2 3 0;down 3 4 0;down 4 0 0;");
+        Asked x = fort("down 0 1 0;down 1 2 0;down 2 3 0;down 3 4 0;down 4 0 0;");
         int[][] bad = {
             {-1, 0, 0}, {5, 0, 0}, {0, -1, 0}, {0, 5, 0}, {2, 2, 0}, {0, 1, -1}, {0, 1, 10},
             {MOST, 0, 0}, {0, LEAST, 0}
@@ -95,12 +242,12 @@ public final class MiserBridgesPromises {
         due("NO ahead of FULL", -3, x.chain(3, 4, 0));
         due("chains: count", 2, x.count(1));
         refusals("chain", x, bad.length + 1, 3, 0);
-        MiserBridges one = fort("down 0 1 0;");
+        Asked one = fort("down 0 1 0;");
         due("a bridge that is not there", -2, one.chain(0, 1, 0));
     }
 
     private static void promise4() {
-        MiserBridges x = fort("down 0 1 0;bridge 0 1 0;chain 0 1 0;one 1 0;");
+        Asked x = fort("down 0 1 0;bridge 0 1 0;chain 0 1 0;one 1 0;");
         due("load 1 20", 0, x.load(1, 20));
         due("nothing tips without a step", 1, x.lying());
         due("load 1 0", 20, x.load(1, 0));
@@ -117,7 +264,7 @@ public final class MiserBridgesPromises {
     }
 
     private static void promise5() {
-        MiserBridges x = new MiserBridges();
+        Asked x = new Asked();
         due("one 0 0", -2, x.one(0, 0));
         due("one 10 0", -2, x.one(10, 0));
         due("one 1 -1", -2, x.one(1, -1));
@@ -135,7 +282,7 @@ public final class MiserBridgesPromises {
         int[] loads7 = {7, 3, 14, 7, 3, 15};
         int[] loads1 = {1, 0, 2, 1, 0, 3};
         for (int kind = 0; kind < 6; kind++) {
-            MiserBridges x = fort("down 0 1 " + kind + ";one 3 0;one 2 1;");
+            Asked x = fort("down 0 1 " + kind + ";one 3 0;one 2 1;");
             due("nothing on kind " + kind, 0, x.weight(0));
             x.step(0, 5);
             x.step(1, 5);
@@ -152,7 +299,7 @@ public final class MiserBridgesPromises {
     }
 
     private static void promise7() {
-        MiserBridges x = fort("down 0 1 0;down 1 2 0;one 3 2;one 2 1;");
+        Asked x = fort("down 0 1 0;down 1 2 0;one 3 2;one 2 1;");
         due("where 0", 2, x.where(0));
         x.step(1, 6);
         due("where 1", 6, x.where(1));
@@ -162,14 +309,14 @@ public final class MiserBridgesPromises {
     }
 
     private static void promise8() {
-        MiserBridges x = fort("bridge 0 1 0;down 1 2 0;bridge 0 1 0;bridge 0 1 0;down 0 4 0;");
+        Asked x = fort("bridge 0 1 0;down 1 2 0;bridge 0 1 0;bridge 0 1 0;down 0 4 0;");
         due("lying", 0b10010, x.lying());
         x.bridge(0, 0, 0, true);
         due("lying", 0b10010, x.lying());
     }
 
     private static void promise9() {
-        MiserBridges x = new MiserBridges();
+        Asked x = new Asked();
         due("type of 0", -2, x.type(59, 0));
         due("type of 9", -2, x.type(59, 9));
         due("type of -1", -2, x.type(59, -1));
@@ -198,7 +345,7 @@ public final class MiserBridgesPromises {
     }
 
     private static void promise10() {
-        MiserBridges x = new MiserBridges();
+        Asked x = new Asked();
         due("clear", 0, x.clear());
         x.type(0, 7);
         due("clear", 7, x.clear());
@@ -206,7 +353,7 @@ public final class MiserBridgesPromises {
     }
 
     private static void readDue(String text, int want) {
-        MiserBridges x = new MiserBridges();
+        Asked x = new Asked();
         x.bridge(3, 4, 0, true);
         x.one(7, 3);
         x.step(0, 5);
@@ -268,7 +415,7 @@ public final class MiserBridgesPromises {
         readDue("one 10 0;one", -10 - 12);
         readDue("one 10 0;gate;", -10 - 9);
         // the FORT is told anew by these alone, IMAGES and STATUS stay
-        MiserBridges x = fort("down 0 1 0;down 1 2 0;chain 0 1 3;one 4 0;load 1 6;");
+        Asked x = fort("down 0 1 0;down 1 2 0;chain 0 1 3;one 4 0;load 1 6;");
         x.image(0);
         x.weight(9);
         x.step(0, 5);
@@ -291,7 +438,7 @@ public final class MiserBridgesPromises {
 
     /** What an earlier, longer text had behind the end of this one is not read. */
     private static void bytesThatWere() {
-        MiserBridges x = new MiserBridges();
+        Asked x = new Asked();
         typed(x, "ones 5 0123;      ");
         due("a word at the end", -10 - 3, readOf(x, "one"));
         typed(x, "one 5 0123;        ");
@@ -303,7 +450,7 @@ public final class MiserBridgesPromises {
     }
 
     private static void promise12() {
-        MiserBridges x = fort("down 0 1 0;bridge 1 2 0;chain 0 1 2;one 3 0;one 5 2;");
+        Asked x = fort("down 0 1 0;bridge 1 2 0;chain 0 1 2;one 3 0;one 5 2;");
         due("step -1 0", -2, x.step(-1, 0));
         due("step 2 0", -2, x.step(2, 0));
         due("step 0 -1", -2, x.step(0, -1));
@@ -327,7 +474,7 @@ public final class MiserBridgesPromises {
     }
 
     private static void rust() {
-        MiserBridges x = fort("down 0 1 0;bridge 1 2 0;chain 0 1 2;one 3 0;load 1 5;");
+        Asked x = fort("down 0 1 0;bridge 1 2 0;chain 0 1 2;one 3 0;load 1 5;");
         due("5 - 3 is RUST", 1, x.step(0, 5));
         x.load(1, 6);
         due("it tips at a step alone", 1, x.lying());
@@ -340,7 +487,7 @@ public final class MiserBridgesPromises {
 
     private static void latchedAndJammed() {
         // LATCHED never goes UP, so the heavy one does not come DOWN either
-        MiserBridges x = fort("down 0 1 3;bridge 1 2 0;chain 0 1 0;one 1 0;load 1 9;");
+        Asked x = fort("down 0 1 3;bridge 1 2 0;chain 0 1 0;one 1 0;load 1 9;");
         due("latched", 1, x.step(0, 5));
         // LATCHED is UP already: the heavy one comes DOWN
         x = fort("bridge 0 1 3;bridge 1 2 0;down 0 3 0;chain 0 1 0;one 1 0;load 1 9;");
@@ -364,7 +511,7 @@ public final class MiserBridgesPromises {
     }
 
     private static void waiting() {
-        MiserBridges x = fort("down 0 1 0;bridge 1 2 0;down 0 3 0;chain 0 1 0;one 1 0;one 1 0;load 1 3;");
+        Asked x = fort("down 0 1 0;bridge 1 2 0;down 0 3 0;chain 0 1 0;one 1 0;one 1 0;load 1 3;");
         due("he goes up with it", 0b110, x.step(0, 5));
         due("he waits", -3, x.step(0, 0));
         due("he waits", -3, x.step(0, 1));
@@ -376,7 +523,7 @@ public final class MiserBridgesPromises {
     }
 
     private static void promise13() {
-        MiserBridges x = fort("down 0 1 0;bridge 1 2 0;down 0 3 0;chain 0 1 0;one 1 0;load 1 3;");
+        Asked x = fort("down 0 1 0;bridge 1 2 0;down 0 3 0;chain 0 1 0;one 1 0;load 1 3;");
         due("none", -3, x.undo());
         due("step", 0b110, x.step(0, 5));
         due("undo", 0b101, x.undo());
@@ -409,7 +556,7 @@ public final class MiserBridgesPromises {
     }
 
     private static void theOldestGoes() {
-        MiserBridges x = fort("down 0 1 0;down 3 4 0;one 1 0;one 1 3;");
+        Asked x = fort("down 0 1 0;down 3 4 0;one 1 0;one 1 3;");
         x.step(1, 6);
         for (int i = 0; i < 16; i++) {
             x.step(0, i % 2 == 0 ? 5 : 1);
@@ -427,7 +574,7 @@ public final class MiserBridgesPromises {
     }
 
     private static void promise14() {
-        MiserBridges x = fort("down 0 1 0;down 1 2 0;down 0 2 0;one 1 0;one 2 1;");
+        Asked x = fort("down 0 1 0;down 1 2 0;down 0 2 0;one 1 0;one 2 1;");
         due("way of none", 0, x.way(0, 4, -1));
         due("way of one who is there", 0, x.way(1, 0, -1));
         due("not so many", -5, x.way(1, 0, 0));
@@ -465,7 +612,7 @@ public final class MiserBridgesPromises {
 
     private static void promise15() {
         // one on a line of two BRIDGES without a CHAIN: 3 rooms, 2 bridges
-        MiserBridges x = fort("down 0 1 0;down 1 2 0;bridge 0 4 0;one 1 0;");
+        Asked x = fort("down 0 1 0;down 1 2 0;bridge 0 4 0;one 1 0;");
         due("reach 0", 5, x.reach(0));
         due("reach 1", 1, x.reach(1));
         due("reach 2", 0b011, x.reach(2));
@@ -482,7 +629,7 @@ public final class MiserBridgesPromises {
     }
 
     private static void promise16() {
-        MiserBridges x = fort("down 0 1 0;down 0 2 0;chain 0 1 0;one 1 0;");
+        Asked x = fort("down 0 1 0;down 0 2 0;chain 0 1 0;one 1 0;");
         due("can 0", 0, x.can(0));
         due("can 1", 1, x.can(1));
         due("can 2", 1, x.can(2));
@@ -499,7 +646,7 @@ public final class MiserBridgesPromises {
     }
 
     private static void promise17() {
-        MiserBridges x = fort("down 0 1 0;down 0 2 0;chain 0 1 0;one 1 0;");
+        Asked x = fort("down 0 1 0;down 0 2 0;chain 0 1 0;one 1 0;");
         due("closed 0", 0, x.closed(0));
         due("closed 1", 1, x.closed(1));
         due("closed 2", 1, x.closed(2));
@@ -511,7 +658,7 @@ public final class MiserBridgesPromises {
 
     private static void promise18() {
         // 2 pounds tip it, 1 pound does not
-        MiserBridges x = fort("down 0 1 0;down 0 2 0;chain 0 1 1;one 2 0;one 1 0;");
+        Asked x = fort("down 0 1 0;down 0 2 0;chain 0 1 1;one 2 0;one 1 0;");
         due("child of the heavy one", 2, x.child(0));
         due("child of the light one", 0, x.child(1));
         due("child -1", -2, x.child(-1));
@@ -532,7 +679,7 @@ public final class MiserBridgesPromises {
     }
 
     private static void promise19() {
-        MiserBridges x = fort("down 0 1 0;down 1 2 0;chain 0 1 0;down 0 3 0;one 5 0;");
+        Asked x = fort("down 0 1 0;down 1 2 0;chain 0 1 0;down 0 3 0;one 5 0;");
         due("on it the next one is UP, and nothing brings it DOWN", -1, x.way(1, 2, -1));
         due("cut", 0, x.cut(1, 2));
         due("no shorter", -1, x.cut(1, 3));
@@ -559,7 +706,7 @@ public final class MiserBridgesPromises {
     }
 
     private static void promise20() {
-        MiserBridges x = fort("down 0 1 0;bridge 1 2 0;bridge 0 3 0;one 5 0;load 1 9;load 2 6;");
+        Asked x = fort("down 0 1 0;bridge 1 2 0;bridge 0 3 0;one 5 0;load 1 9;load 2 6;");
         due("no way", -1, x.way(1, 2, -1));
         due("tie brings 1 DOWN", 12, x.tie(1, 2));
         due("with 2 DOWN he hangs on 0", -1, x.tie(1, 3));
@@ -580,7 +727,7 @@ public final class MiserBridgesPromises {
     }
 
     private static void promise21() {
-        MiserBridges x = fort("down 0 1 0;bridge 0 3 0;down 0 2 0;chain 0 1 4;one 5 0;");
+        Asked x = fort("down 0 1 0;bridge 0 3 0;down 0 2 0;chain 0 1 4;one 5 0;");
         due("no way", -1, x.way(1, 3, -1));
         due("stone of 4", -1, x.stone(1, 3, 4));
         due("stone of 5", 1, x.stone(1, 3, 5));
@@ -608,7 +755,7 @@ public final class MiserBridgesPromises {
     }
 
     private static void promise22() {
-        MiserBridges x = fort("down 0 1 0;bridge 2 3 0;chain 0 1 3;one 5 0;one 9 1;");
+        Asked x = fort("down 0 1 0;bridge 2 3 0;chain 0 1 3;one 5 0;one 9 1;");
         due("he is there", -1, x.keep(0, 0, 9));
         due("he never gets there", 0, x.keep(0, 4, 9));
         due("too light", -1, x.keep(0, 1, 8));
@@ -631,7 +778,7 @@ public final class MiserBridgesPromises {
     }
 
     private static void promise23() {
-        MiserBridges x = fort("down 0 1 0;down 0 1 0;down 1 2 0;one 5 0;one 9 1;");
+        Asked x = fort("down 0 1 0;down 0 1 0;down 1 2 0;one 5 0;one 9 1;");
         due("no step", 1, x.wet(0, 0, 0, 0));
         due("no step, told another place", 0, x.wet(0, 0, 1, 0));
         due("no step, told a bridge", 0, x.wet(0, 0, 0, 1));
@@ -662,7 +809,7 @@ public final class MiserBridgesPromises {
     }
 
     private static void promises24And25() {
-        MiserBridges x = fort("down 0 1 0;bridge 1 2 0;down 0 3 0;chain 0 1 0;one 1 0;load 1 3;");
+        Asked x = fort("down 0 1 0;bridge 1 2 0;down 0 3 0;chain 0 1 0;one 1 0;load 1 3;");
         x.step(0, 5);
         x.type(';', 1);
         long then = x.digest();
@@ -697,7 +844,7 @@ public final class MiserBridgesPromises {
     }
 
     private static void promise26() {
-        MiserBridges x = new MiserBridges();
+        Asked x = new Asked();
         due("status 3", -1, x.status(3));
         due("status -1", -1, x.status(-1));
         due("these count", 2, x.status(0));
@@ -711,7 +858,7 @@ public final class MiserBridgesPromises {
     }
 
     private static void promise27() {
-        MiserBridges x = fort("down 0 1 0;down 1 2 0;down 0 2 0;chain 0 1 9;one 1 0;one 2 0;");
+        Asked x = fort("down 0 1 0;down 1 2 0;down 0 2 0;chain 0 1 9;one 1 0;one 2 0;");
         x.type(0, 5);
         x.step(0, 5);
         int[] counts = {3, 1, 2, 1, 5};
@@ -724,7 +871,7 @@ public final class MiserBridgesPromises {
     }
 
     private static void promise28() {
-        MiserBridges x = fort("down 3 1 5;bridge 1 2 4;chain 1 0 9;one 7 3;one 2 1;load 1 13;");
+        Asked x = fort("down 3 1 5;bridge 1 2 4;chain 1 0 9;one 7 3;one 2 1;load 1 13;");
         x.step(0, 5);
         x.type(0, 4);
         int[] parts = {2, 1, 2, 1, 4, 3, 1, 5, 0, 1, 2, 4, 13, 1, 1, 0, 9, 7, 5, 2, 1};
@@ -738,7 +885,7 @@ public final class MiserBridgesPromises {
         for (int i = 0; i < 6; i++) {
             h = 31 * h;
         }
-        due("digest of a new one", h, new MiserBridges().digest());
+        due("digest of a new one", h, new Asked().digest());
     }
 
     public static void main(String[] args) {
