@@ -943,6 +943,7 @@ public final class MiserBridgesEdges {
             """);
         told("11: an empty TEXT tells a fort of nothing", FULL_FORT + """
             step(0, 5) = 31
+            reach(1) = 1
             read() = 0
             count(0) = 0
             count(1) = 0
@@ -1127,8 +1128,21 @@ public final class MiserBridgesEdges {
     private static String walk(int steps) {
         StringBuilder lines = new StringBuilder();
         for (int i = 0; i < steps; i++) {
-            lines.append("step(0, " + (i % 2 == 0 ? 5 : i % 4 == 1 ? 1 : 0) + ") = 1\n");
+            lines.append("step(0, " + placeBehind(i) + ") = 1\n");
             lines.append("count(3) = " + Math.min(i + 1, 16) + "\n");
+        }
+        return lines.toString();
+    }
+
+    private static int placeBehind(int step) {
+        return step < 0 ? 0 : step % 2 == 0 ? 5 : step % 4 == 1 ? 1 : 0;
+    }
+
+    /** As far back as a walk of so many STEPS may be undone. */
+    private static String walkBack(int steps) {
+        StringBuilder lines = new StringBuilder();
+        for (int i = steps - 1; i >= Math.max(0, steps - 16); i--) {
+            lines.append("undo() = 1\nwhere(0) = " + placeBehind(i - 1) + "\n");
         }
         return lines.toString();
     }
@@ -1145,24 +1159,12 @@ public final class MiserBridgesEdges {
             undo() = NO
             """);
         String start = "fort down 0 1 0;one 1 0;\n";
-        told("13: 15 STEPS", start + walk(15) + "undo() = 1\n".repeat(15) + """
-            where(0) = 0
-            undo() = NO
-            """);
-        told("13: 16 STEPS", start + walk(16) + "undo() = 1\n".repeat(16) + """
-            where(0) = 0
-            undo() = NO
-            """);
-        told("13: 17 STEPS, 16 at most", start + walk(17) + "undo() = 1\n".repeat(16) + """
-            where(0) = 5
-            undo() = NO
-            """);
-        told("13: 19 STEPS, 16 at most", start + walk(19) + "undo() = 1\n".repeat(15) + """
-            where(0) = 0
-            undo() = 1
-            where(0) = 5
-            undo() = NO
-            """);
+        told("13: 15 STEPS", start + walk(15) + walkBack(15) + "where(0) = 0\nundo() = NO\n");
+        told("13: 16 STEPS", start + walk(16) + walkBack(16) + "where(0) = 0\nundo() = NO\n");
+        told("13: 17 STEPS, 16 at most", start + walk(17) + walkBack(17)
+            + "where(0) = 5\nundo() = NO\n");
+        told("13: 19 STEPS, 16 at most", start + walk(19) + walkBack(19)
+            + "where(0) = 5\nundo() = NO\n");
         told("13: room for a STEP behind an UNDO", start + walk(16) + """
             undo() = 1
             step(0, 1) = 1
@@ -1373,6 +1375,14 @@ public final class MiserBridgesEdges {
             reach(2) = 0b10001
             reach(3) = 0b00010
             """);
+        told("15: very many ways all can be", """
+            fort down 3 1 0;down 2 4 1;down 0 2 0;down 2 1 0;down 3 0 1;
+            fort chain 3 4 8;chain 0 2 7;one 7 0;one 5 3;one 7 1;
+            reach(0) = 6374
+            reach(1) = 9
+            reach(2) = 2
+            reach(3) = 0
+            """);
         told("15: behind any STEPS, this one too", """
             fort down 0 1 0;bridge 2 3 0;chain 0 1 0;load 1 1;one 1 0;
             reach(0) = 4
@@ -1476,6 +1486,12 @@ public final class MiserBridgesEdges {
             child(0) = 2
             child(1) = 2
             """);
+        told("18: the others keep their POUNDS and their PLACES", """
+            fort down 0 1 0;down 0 1 0;down 3 4 0;chain 0 1 4;one 1 3;one 2 3;one 5 0;
+            child(0) = 0
+            child(1) = 0
+            child(2) = 2
+            """);
         told("18: in no place: who stands on it weighs no more, and nothing tips as he goes", """
             fort down 0 1 0;bridge 0 2 0;down 0 3 0;chain 0 1 0;one 9 0;one 1 0;
             step(0, 5) = 0b101
@@ -1519,6 +1535,12 @@ public final class MiserBridgesEdges {
             fort down 0 1 0;down 1 2 0;down 0 3 0;down 3 2 0;chain 0 1 0;one 5 0;
             way(1, 2, NONE) = 4
             cut(1, 2) = NONE
+            """);
+        told("19: the CHAIN that stays keeps its RUST", """
+            fort down 2 4 0;bridge 3 4 0;down 0 1 0;down 1 2 0;chain 0 1 0;chain 2 3 5;one 5 0;load 1 9;
+            way(1, 2, NONE) = 4
+            way(1, 4, NONE) = NONE
+            cut(1, 4) = 0
             """);
         told("19: the greatest CHAIN, of like ones the least", """
             fort down 0 1 0;down 1 2 0;down 0 3 0;down 3 4 0;down 4 2 0;
@@ -1572,6 +1594,12 @@ public final class MiserBridgesEdges {
             chain(2, 3, 9) = 1
             tie(1, 3) = NONE
             count(1) = 2
+            """);
+        told("20: one STEP shorter", """
+            fort down 0 1 3;down 1 2 3;bridge 0 2 0;down 3 4 0;one 1 0;one 1 3;load 2 5;
+            way(1, 2, NONE) = 4
+            tie(1, 2) = 23
+            tie(3, 2) = NONE
             """);
         told("20: the shortest, not the first", """
             fort bridge 0 1 0;down 1 3 3;bridge 0 3 0;down 0 2 0;down 0 4 3;load 0 9;load 2 9;one 1 0;
@@ -1629,6 +1657,14 @@ public final class MiserBridgesEdges {
             stone(1, 3, 4) = NONE
             stone(1, 3, 5) = 1
             weight(1) = 20
+            """);
+        told("21: one STEP shorter", """
+            fort down 0 1 0;down 1 2 0;bridge 0 2 0;down 3 4 0;chain 2 3 0;one 1 0;one 1 3;
+            way(1, 2, NONE) = 4
+            stone(1, 2, 5) = 2
+            load(2, 5) = 0
+            way(1, 2, NONE) = 3
+            stone(1, 2, 5) = NONE
             """);
         told("21: the shortest, not the first", """
             fort bridge 0 1 0;bridge 0 2 0;down 1 2 0;down 3 4 0;down 3 4 0;
@@ -1689,6 +1725,21 @@ public final class MiserBridgesEdges {
             keep(1, 1, 9) = 2
             keep(1, 1, 5) = NONE
             keep(0, 1, 9) = NONE
+            """);
+        told("22: one alone, the next one and the last one not there", """
+            fort down 0 1 0;bridge 2 3 0;down 0 4 0;chain 0 1 0;one 5 0;one 9 0;one 9 0;
+            step(1, 5) = 0b101
+            keep(0, 1, 9) = 2
+            undo() = 0b101
+            step(2, 5) = 0b101
+            keep(0, 1, 9) = 2
+            keep(1, 1, 9) = NONE
+            """);
+        told("22: two of one CHAIN, either alone lets him in", """
+            fort bridge 0 1 2;bridge 0 1 0;down 0 4 0;chain 0 1 0;one 1 0;load 1 9;
+            way(1, 1, NONE) = 4
+            keep(0, 1, 9) = 3
+            keep(0, 1, 8) = NONE
             """);
         told("22: v pounds more than the greatest BALLAST", """
             fort down 0 1 0;bridge 2 3 0;chain 0 1 0;one 1 0;load 0 20;load 1 20;
@@ -1774,6 +1825,18 @@ public final class MiserBridgesEdges {
             wet(1, 2, 2, 2) = 1
             wet(1, 4, 0, 3) = 0
             """);
+        told("23: the next one and the last one hold no BRIDGE for him", """
+            fort down 0 1 0;bridge 2 3 0;chain 0 1 0;one 5 0;one 9 0;one 9 0;
+            step(1, 5) = 1
+            load(1, 9) = 0
+            wet(0, 2, 1, 1) = 0
+            load(1, 0) = 9
+            undo() = 1
+            step(2, 5) = 1
+            load(1, 9) = 0
+            wet(0, 2, 1, 1) = 0
+            wet(0, 1, 5, 1) = 1
+            """);
         told("23: who is on one that is UP waits", """
             fort down 0 1 0;bridge 0 1 0;chain 0 1 0;load 1 9;one 1 0;
             step(0, 5) = 2
@@ -1844,9 +1907,28 @@ public final class MiserBridgesEdges {
             from(0) = 1
             count(3) = 16
             count(2) = 1
-            """ + "undo() = 1\n".repeat(16) + """
-            undo() = NO
+            """ + walkBack(16) + "undo() = NO\n");
+        told("24: other STEPS leave those of an IMAGE", """
+            fort down 0 1 0;down 0 2 0;one 1 0;
+            step(0, 5) = 3
+            step(0, 1) = 3
+            image(1) = 1
+            undo() = 3
+            undo() = 3
+            step(0, 6) = 3
+            step(0, 2) = 3
+            from(1) = 1
+            where(0) = 1
+            undo() = 3
+            where(0) = 5
+            undo() = 3
             where(0) = 0
+            step(0, 6) = 3
+            from(1) = 1
+            undo() = 3
+            where(0) = 5
+            undo() = 3
+            undo() = NO
             """);
         told("25: THE TEXT, STATUS and the IMAGES go on", """
             type(59, 3) = 3
