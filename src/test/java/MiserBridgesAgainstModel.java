@@ -818,12 +818,17 @@ public final class MiserBridgesAgainstModel {
 
     private static boolean alike(int run, MiserBridges x, Model m, String name, long... v) {
         long want = m.call(name, v);
-        long got = call(x, name, v);
-        if (got != want) {
-            System.out.println("run " + run + ": " + name + Arrays.toString(v) + " answered " + got
-                + ", due is " + want);
+        String told = "run " + run + ": " + name + Arrays.toString(v).replace('[', '(').replace(']', ')');
+        try {
+            long got = call(x, name, v);
+            if (got != want) {
+                System.out.println(told + " answered " + got + ", due is " + want);
+            }
+            return got == want;
+        } catch (RuntimeException | Error e) {
+            System.out.println(told + " threw " + e + ", due is " + want);
+            return false;
         }
-        return got == want;
     }
 
     private static boolean typeAndRead(int run, Random r, MiserBridges x, Model m) {

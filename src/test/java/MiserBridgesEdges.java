@@ -1,6 +1,9 @@
+import java.io.IOException;
 import java.lang.reflect.InvocationTargetException;
 import java.lang.reflect.Method;
 import java.lang.reflect.Modifier;
+import java.nio.file.Files;
+import java.nio.file.Path;
 import java.util.ArrayList;
 import java.util.HashMap;
 import java.util.List;
@@ -43,6 +46,15 @@ public final class MiserBridgesEdges {
         }
     }
 
+    /** A call threw instead. */
+    private static final class NoAnswer extends RuntimeException {
+        private static final long serialVersionUID = 1;
+
+        NoAnswer(String what, Exception cause) {
+            super(what, cause);
+        }
+    }
+
     // ---- a call, told as a text
 
     private static final class Call {
@@ -80,7 +92,7 @@ public final class MiserBridgesEdges {
             try {
                 return ((Number) method.invoke(x, arguments)).longValue();
             } catch (IllegalAccessException | InvocationTargetException e) {
-                throw new IllegalStateException(text + " threw " + e.getCause(), e);
+                throw new NoAnswer(text + " threw " + e.getCause(), e);
             }
         }
     }
@@ -104,9 +116,11 @@ public final class MiserBridgesEdges {
         final Long answer;
         /** BAD 0, NO 1, FULL 2; none -1. */
         final int reason;
+        final String dueTold;
 
         Line(String call, String dueTold) {
             this.call = new Call(call);
+            this.dueTold = dueTold == null ? "no refusal" : dueTold;
             String[] parts = dueTold == null ? new String[0] : dueTold.split(" ");
             answer = parts.length == 0 ? null : (Long) number(parts[0]);
             reason = parts.length == 0 ? -1 : REASONS.indexOf(parts[parts.length - 1]);
@@ -173,12 +187,25 @@ public final class MiserBridgesEdges {
     // ---- a run
 
     private static void told(String title, String script) {
+        Line[] last = new Line[1];
+        try {
+            runOf(title, script, last);
+        } catch (NoAnswer e) {
+            wrong++;
+            System.out.println(title + ": " + e.getMessage() + ", at or behind " + last[0].call.text
+                + ", due is " + last[0].dueTold);
+        }
+    }
+
+    /** Keeps the line that it is at in last, for what is printed where a call threw. */
+    private static void runOf(String title, String script, Line[] last) {
         MiserBridges x = new MiserBridges();
         List<Call> kept = new ArrayList<>();
         List<String> without = null;
         int[] refused = new int[3];
         int calls = 0;
         for (Line line : linesOf(script)) {
+            last[0] = line;
             long got = line.call.on(x);
             due(title, line.call.text, got, line.answer == null ? Math.max(got, 0) : line.answer);
             if (line.reason >= 0) {
@@ -2049,7 +2076,30 @@ public final class MiserBridgesEdges {
         return h;
     }
 
-    public static void main(String[] args) {
+    // ---- what README.md shows
+
+    /** A line there is a call, two strokes and its answer: "fort.lying();  // 5: words". */
+    private static final Pattern SHOWN = Pattern.compile("fort\\.(.*\\)); *// (-?\\w+): .*");
+
+    private static void shown() throws IOException {
+        String page = Files.readString(Path.of("README.md"));
+        int from = page.indexOf("```java");
+        StringBuilder script = new StringBuilder();
+        int lines = 0;
+        for (String line : page.substring(from, page.indexOf("```", from + 3)).split("\n")) {
+            Matcher m = SHOWN.matcher(line);
+            if (m.matches()) {
+                script.append(m.group(1).replace("MiserBridges.", "")).append(" = ").append(m.group(2)).append("\n");
+                lines++;
+            } else {
+                due("README.md", "a line that shows no answer: " + line, line.startsWith("fort.") ? 1 : 0, 0);
+            }
+        }
+        due("README.md", "some lines that show an answer", Math.min(lines, 10), 10);
+        told("README.md", script.toString());
+    }
+
+    public static void main(String[] args) throws IOException {
         for (Method m : MiserBridges.class.getDeclaredMethods()) {
             if (Modifier.isPublic(m.getModifiers())) {
                 FACE.put(m.getName(), m);
@@ -2091,6 +2141,7 @@ public final class MiserBridgesEdges {
         statuses();
         counts();
         digests();
+        shown();
         System.out.println(asked + " answers, " + wrong + " not as due");
         if (wrong != 0) {
             System.exit(1);

@@ -1,4 +1,5 @@
 import java.util.Arrays;
+import java.util.function.LongSupplier;
 
 /** Each promise of the document by itself: ordinary calls, the edges it names, wrong calls. */
 public final class MiserBridgesPromises {
@@ -9,154 +10,139 @@ public final class MiserBridgesPromises {
 
     private static void due(String what, long want, long got) {
         asked++;
-        if (got != want) {
+        if (got != want || Asked.thrown != null) {
             wrong++;
-            System.out.println(what + ": " + Asked.last + " answered " + got + ", due is " + want);
+            String answer = Asked.thrown == null ? " answered " + got : " threw " + Asked.thrown;
+            System.out.println(what + ": " + Asked.last + answer + ", due is " + want);
         }
     }
 
     /** The class itself, which also tells its last call, for what a test that fails prints. */
     private static final class Asked {
         private static String last = "";
+        /** What the last call threw; null: it answered. */
+        private static String thrown = null;
         private final MiserBridges fort = new MiserBridges();
 
-        private static void note(String name, Object... arguments) {
+        private static long ask(LongSupplier call, String name, Object... arguments) {
             last = name + Arrays.toString(arguments).replace('[', '(').replace(']', ')');
+            thrown = null;
+            try {
+                return call.getAsLong();
+            } catch (RuntimeException | Error e) {
+                wrong++;
+                thrown = e.toString();
+                System.out.println(last + " threw " + thrown);
+                return LEAST;
+            }
         }
 
         int bridge(int a, int b, int kind, boolean down) {
-            note("bridge", a, b, kind, down);
-            return fort.bridge(a, b, kind, down);
+            return (int) ask(() -> fort.bridge(a, b, kind, down), "bridge", a, b, kind, down);
         }
 
         int chain(int a, int b, int rust) {
-            note("chain", a, b, rust);
-            return fort.chain(a, b, rust);
+            return (int) ask(() -> fort.chain(a, b, rust), "chain", a, b, rust);
         }
 
         int load(int bridge, int pounds) {
-            note("load", bridge, pounds);
-            return fort.load(bridge, pounds);
+            return (int) ask(() -> fort.load(bridge, pounds), "load", bridge, pounds);
         }
 
         int one(int pounds, int room) {
-            note("one", pounds, room);
-            return fort.one(pounds, room);
+            return (int) ask(() -> fort.one(pounds, room), "one", pounds, room);
         }
 
         int weight(int bridge) {
-            note("weight", bridge);
-            return fort.weight(bridge);
+            return (int) ask(() -> fort.weight(bridge), "weight", bridge);
         }
 
         int where(int person) {
-            note("where", person);
-            return fort.where(person);
+            return (int) ask(() -> fort.where(person), "where", person);
         }
 
         int lying() {
-            note("lying");
-            return fort.lying();
+            return (int) ask(() -> fort.lying(), "lying");
         }
 
         int type(long v, int n) {
-            note("type", v, n);
-            return fort.type(v, n);
+            return (int) ask(() -> fort.type(v, n), "type", v, n);
         }
 
         int clear() {
-            note("clear");
-            return fort.clear();
+            return (int) ask(() -> fort.clear(), "clear");
         }
 
         int read() {
-            note("read");
-            return fort.read();
+            return (int) ask(() -> fort.read(), "read");
         }
 
         int step(int person, int place) {
-            note("step", person, place);
-            return fort.step(person, place);
+            return (int) ask(() -> fort.step(person, place), "step", person, place);
         }
 
         int undo() {
-            note("undo");
-            return fort.undo();
+            return (int) ask(() -> fort.undo(), "undo");
         }
 
         int way(int some, int room, int i) {
-            note("way", some, room, i);
-            return fort.way(some, room, i);
+            return (int) ask(() -> fort.way(some, room, i), "way", some, room, i);
         }
 
         int reach(int what) {
-            note("reach", what);
-            return fort.reach(what);
+            return (int) ask(() -> fort.reach(what), "reach", what);
         }
 
         int can(int lying) {
-            note("can", lying);
-            return fort.can(lying);
+            return (int) ask(() -> fort.can(lying), "can", lying);
         }
 
         int closed(int room) {
-            note("closed", room);
-            return fort.closed(room);
+            return (int) ask(() -> fort.closed(room), "closed", room);
         }
 
         int child(int person) {
-            note("child", person);
-            return fort.child(person);
+            return (int) ask(() -> fort.child(person), "child", person);
         }
 
         int cut(int some, int room) {
-            note("cut", some, room);
-            return fort.cut(some, room);
+            return (int) ask(() -> fort.cut(some, room), "cut", some, room);
         }
 
         int tie(int some, int room) {
-            note("tie", some, room);
-            return fort.tie(some, room);
+            return (int) ask(() -> fort.tie(some, room), "tie", some, room);
         }
 
         int stone(int some, int room, int v) {
-            note("stone", some, room, v);
-            return fort.stone(some, room, v);
+            return (int) ask(() -> fort.stone(some, room, v), "stone", some, room, v);
         }
 
         int keep(int person, int room, int v) {
-            note("keep", person, room, v);
-            return fort.keep(person, room, v);
+            return (int) ask(() -> fort.keep(person, room, v), "keep", person, room, v);
         }
 
         int wet(int person, int n, int place, int bridges) {
-            note("wet", person, n, place, bridges);
-            return fort.wet(person, n, place, bridges);
+            return (int) ask(() -> fort.wet(person, n, place, bridges), "wet", person, n, place, bridges);
         }
 
         int image(int i) {
-            note("image", i);
-            return fort.image(i);
+            return (int) ask(() -> fort.image(i), "image", i);
         }
 
         int from(int i) {
-            note("from", i);
-            return fort.from(i);
+            return (int) ask(() -> fort.from(i), "from", i);
         }
 
         int status(int what) {
-            note("status", what);
-            return fort.status(what);
+            return (int) ask(() -> fort.status(what), "status", what);
         }
 
         int count(int what) {
-            note("count", what);
-            return fort.count(what);
+            return (int) ask(() -> fort.count(what), "count", what);
         }
 
         long digest() {
-            note("digest");
-            return fort.digest();
+            return ask(() -> fort.digest(), "digest");
         }
     }
 
